@@ -238,7 +238,6 @@ public final class AskedTable {
 
         Chars(int room) {
             chars = new char[room];
-            length = 0;
         }
 
         int at(int i) {
@@ -917,7 +916,7 @@ public final class AskedTable {
                     stack[height] = truthOf(step, question, table);
                     height++;
                 } else if (step == NOT && height > 0) {
-                    stack[height - 1] = stack[height - 1] << MAX_ROWS | stack[height - 1] >>> MAX_ROWS;
+                    stack[height - 1] = turned(stack[height - 1]);
                 } else if (height > 1) {
                     height--;
                     stack[height - 1] = join(step, stack[height - 1], stack[height]);
@@ -926,12 +925,16 @@ public final class AskedTable {
             return stack[0] & TRUE_BITS;
         }
 
+        private static int turned(int truth) {
+            return (truth << MAX_ROWS) | (truth >>> MAX_ROWS);
+        }
+
         private static int join(int step, int one, int other) {
             int both = one & other;
             int either = one | other;
             return step == AND
-                    ? both & TRUE_BITS | either & ~TRUE_BITS
-                    : either & TRUE_BITS | both & ~TRUE_BITS;
+                    ? (both & TRUE_BITS) | (either & ~TRUE_BITS)
+                    : (either & TRUE_BITS) | (both & ~TRUE_BITS);
         }
 
         private int truthOf(int first, Chars question, Table table) {
@@ -1085,7 +1088,7 @@ public final class AskedTable {
             key = asked.key;
             chosen = 0;
             for (int row = 0; row < MAX_ROWS; row++) {
-                if ((chosenBits >> row & 1) != 0) {
+                if ((chosenBits & (1 << row)) != 0) {
                     rows[chosen] = row;
                     chosen++;
                 }
@@ -1108,10 +1111,11 @@ public final class AskedTable {
 
         /** False if a sum goes beyond the longs. By a name, a line is a stretch of the sorted rows. */
         boolean putTogether(Table table) {
-            size = kind == Word.ROWS ? chosen : 0;
             if (kind == Word.ROWS) {
+                size = chosen;
                 return true;
             }
+            size = 0;
             if (key == NONE) {
                 return addLine(0, chosen, table);
             }

@@ -129,6 +129,8 @@ public final class Promise04LoadTest {
             CHECK.due("the answer stays", Check.written(x, true), "a\n5\n");
             CHECK.due("the lines stay", x.lines(), 1);
         }
+        CHECK.due("too many fields", Check.load(x, ",,,,,,"), UNEVEN);
+        CHECK.due("nothing is left of them", Check.load(x, ""), NAMES);
         CHECK.due("a new table", Check.load(x, "b,c\n"), 0);
         CHECK.due("the answer goes", x.lines(), -1);
         CHECK.due("OUT stays", Check.out(x, 4), "a\n5\n");

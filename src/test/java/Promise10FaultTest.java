@@ -183,6 +183,8 @@ public final class Promise10FaultTest {
         CHECK.due("has none", x.fault(), -1);
         String full = "rows" + " ".repeat(91) + "x";
         CHECK.due("at the end of a full question", Check.fault(x, full), 95);
+        CHECK.due("of as many tokens as there is room", Check.fault(x, "(".repeat(96)), 0);
+        CHECK.due("and of nearly as many", Check.fault(x, "rows" + ")".repeat(92)), 4);
         CHECK.due("behind a full question", Check.fault(x, "rows where" + " ".repeat(86)), 96);
     }
 }
