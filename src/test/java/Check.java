@@ -22,7 +22,7 @@ final class Check {
         looked++;
         if (!String.valueOf(want).equals(String.valueOf(got))) {
             wrong++;
-            System.out.println(what + " answered " + shown(got) + ", due is " + shown(want));
+            System.out.println(shown(what) + " answered " + shown(got) + ", due is " + shown(want));
         }
     }
 
@@ -37,7 +37,7 @@ final class Check {
         }
     }
 
-    private static String shown(Object o) {
+    static String shown(Object o) {
         return String.valueOf(o).replace("\r", "\\r").replace("\n", "\\n");
     }
 
@@ -61,6 +61,11 @@ final class Check {
             }
         }
         return x;
+    }
+
+    /** Asked so that nothing is cut off when it is longer. */
+    static boolean hasLength(AskedTable x, boolean question, int n) {
+        return !x.cut(question, n + 1) && x.cut(question, n);
     }
 
     static AskedTable loaded(String text) {
@@ -110,6 +115,38 @@ final class Check {
     static String writtenAnswer(AskedTable x, String question) {
         String answer = ask(x, question);
         return answer.startsWith("throws.") ? answer : written(x, true);
+    }
+
+    /** OUT, whole. */
+    static String out(AskedTable x) {
+        StringBuilder all = new StringBuilder();
+        String c = told(() -> x.out(0));
+        while (!c.startsWith("throws.")) {
+            all.append((char) Integer.parseInt(c));
+            int next = all.length();
+            c = told(() -> x.out(next));
+        }
+        return all.toString();
+    }
+
+    /** All that calls which change nothing tell of an object, but for its text and question. */
+    static String seen(AskedTable x) {
+        StringBuilder all = new StringBuilder("columns " + x.columns() + " fault " + x.fault() + " lines " + x.lines());
+        for (int c = -1; c <= x.columns(); c++) {
+            int column = c;
+            all.append("\ntype ").append(told(() -> x.type(column)));
+            String missing = told(() -> x.isMissing(0, column));
+            for (int r = 0; !missing.startsWith("throws."); r++) {
+                int row = r;
+                all.append(' ').append(missing).append(' ').append(told(() -> x.value(row, column)));
+                missing = told(() -> x.isMissing(row + 1, column));
+            }
+        }
+        for (int k = 0; k <= Math.max(0, x.lines()); k++) {
+            int line = k;
+            all.append("\nline ").append(told(() -> x.line(line))).append(' ').append(told(() -> x.aggregate(line)));
+        }
+        return all.append("\nout ").append(out(x)).toString();
     }
 
     static String out(AskedTable x, int length) {
