@@ -16,6 +16,7 @@ final class AnswerCallSentences {
     static void test(Document doc) {
         AnswerCallSentences all = new AnswerCallSentences(doc);
         all.ask();
+        all.askAgain();
         all.askBeyond();
         all.fault();
         all.whenFaultChanges();
@@ -66,6 +67,25 @@ final class AnswerCallSentences {
             s.due("none to write", () -> x.write(true), STATE);
             s.due("the table stays", x.columns(), 1);
             s.due("asked again", Check.ask(x, "rows"), 2);
+        }
+    }
+
+    /** What an object answers does not depend on what it was asked before. */
+    private void askAgain() {
+        Sentence s = doc.promise(9, "Asks the question: how many rows or lines the answer has.");
+        String text = "a,t,n\n2,x,9223372036854775807\n1,\"\",\n,,1\n2,y,\n";
+        String[] questions = {"rows", "rows where a=7", "rows where not t is null", "rows order a", "rows order a desc", "rows where a=2 order t desc",
+            "count", "count where a=7", "count by a", "count by t where a=2", "sum(a)", "sum(a) where a=7", "sum(a) by t", "sum(n)", "sum(n) by a",
+            "least(a)", "most(a) where a=7", "least(t) by a", "most(t)", "most(n) by n", "", "rows x", "rows where (a=1", "sum(t)",
+            "count where ((((((((a=1))))))))", "rows where not not not not not not not not not a=1"};
+        for (String first : questions) {
+            for (String second : questions) {
+                AskedTable used = asked(text, first);
+                AskedTable fresh = Check.loaded(text);
+                s.due(second + " behind " + first, Check.ask(used, second), Check.ask(fresh, second));
+                s.due("what is seen then", Check.seen(used), Check.seen(fresh));
+                s.due("what is written then", Check.told(() -> Check.written(used, true)), Check.told(() -> Check.written(fresh, true)));
+            }
         }
     }
 
@@ -135,6 +155,9 @@ final class AnswerCallSentences {
         fault(s, text, "rows 'x' 'y", 5);
         fault(s, text, "rows" + " ".repeat(91) + "x", 95);
         fault(s, text, "m" + "x".repeat(95), 0);
+        fault(s, text, "(".repeat(96), 0);
+        fault(s, text, "rows" + "=".repeat(92), 4);
+        fault(s, text, "rows" + "?".repeat(92), 4);
         fault(s, "m,t\n1,x\n", "rows where n=1", 11);
         fault(s, "m,n\n1,\n", "rows where t=1", 11);
         s = doc.promise(10, "or with the other one can't be compared or summed (of 'sum' never before its NAME);");

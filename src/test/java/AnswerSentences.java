@@ -331,6 +331,7 @@ final class AnswerSentences {
         table(s, "a\n" + "x".repeat(238), "a\n" + "x".repeat(238) + "\n");
         String cell = "\"" + "\"\"".repeat(118) + "\"";
         writes(s, "a\n" + cell, "most(a) by a", "a,most\n" + cell + "," + cell + "\n");
+        longestOut(s);
         StringBuilder text = new StringBuilder("abcdef\n0");
         StringBuilder least = new StringBuilder("abcdef,least\n0,0\n");
         StringBuilder sum = new StringBuilder("abcdef,sum\n0,0\n");
@@ -345,6 +346,20 @@ final class AnswerSentences {
         String texts = text.toString().replace("\n0", "\nx");
         String quotedLeast = least.toString().replaceAll("(1[0-9]+)", "\"$1\"").replace("0,0\n", "") + "x,x\n";
         writes(s, texts, "least(abcdef) by abcdef", quotedLeast);
+    }
+
+    /** A text of 240 characters, all for sixteen cells that come twice and in marks, since a date is among numbers. */
+    private static void longestOut(Sentence s) {
+        StringBuilder text = new StringBuilder("a");
+        StringBuilder want = new StringBuilder("a,least\n");
+        for (int i = 0; i < 16; i++) {
+            String cell = i == 15 ? "2020-01-01" : String.valueOf((i < 3 ? 100000000000000L : 20000000000000L) + i);
+            text.append('\n').append(cell);
+            want.append('"').append(cell).append("\",\"").append(cell).append("\"\n");
+        }
+        s.due("the text is full", text.length(), 240);
+        s.due("the longest", want.length(), 550);
+        writes(s, text.toString(), "least(a) by a", want.toString());
     }
 
     /** A table, an answer and an OUT, before each call that throws and behind it. */

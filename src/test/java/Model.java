@@ -39,6 +39,7 @@ final class Model {
     List<Integer> lines = null;
     /** What aggregate() tells, as a text. */
     List<String> aggregates = null;
+    boolean ofTexts = false;
     String written = null;
 
     // The table.
@@ -351,14 +352,14 @@ final class Model {
         List<Integer> counts = new ArrayList<>();
         List<String> values = new ArrayList<>();
         StringBuilder out = new StringBuilder(key < 0 ? "" : names.get(key) + ",").append(word).append('\n');
+        ofTexts = column >= 0 && types.get(column) == 3;
         for (Map.Entry<String, List<Integer>> group : groups.entrySet()) {
             String found = word.equals("count") ? String.valueOf(group.getValue().size()) : found(word, column, group.getValue());
             if (found != null && found.equals("beyond")) {
                 return "throws.UnsupportedOperationException";
             }
             counts.add(group.getValue().size());
-            boolean texts = column >= 0 && types.get(column) == 3;
-            values.add(texts ? "throws.IllegalStateException" : found == null ? "throws.NoSuchElementException" : String.valueOf(valueOf(found)));
+            values.add(ofTexts ? "throws.IllegalStateException" : found == null ? "throws.NoSuchElementException" : String.valueOf(valueOf(found)));
             out.append(key < 0 ? "" : shown(group.getKey(), key) + ",");
             out.append(column < 0 ? found : shown(found, column)).append('\n');
         }

@@ -24,6 +24,7 @@ final class TableCallSentences {
         all.putRefused();
         all.cut();
         all.load();
+        all.loadAgain();
         all.loadOfWrongMarks();
         all.loadOfOtherWrongs();
         all.columns();
@@ -252,6 +253,27 @@ final class TableCallSentences {
             s.due("the same text again", Check.load(y, "a,b\n1,x\n2,y\n"), 2);
             s.due("the answer goes", y.lines(), -1);
             s.due("it is not written", () -> y.write(true), STATE);
+        }
+    }
+
+    /** What a text is does not depend on those that were read before it. */
+    private void loadAgain() {
+        Sentence s = doc.promise(4, "Reads the text as the table: how many rows.");
+        String[] texts = {"", "a", "a\n1\n", "b\nx\n", "a,b,c,d,e,f\n,,,,,\n1,2147483648,2020-01-01,x,\"\",\"1\"\n",
+            "a" + "\n5".repeat(16), "a\n" + "x".repeat(238), "\"", "a\"", "a,b,\"", "a,b\n1,2\n3,4,\"", "a,b\n1,2\r",
+            "a,b\n\"1\",\"2\" ", "a,b\n1", "a\n1,2\n", ",,,,,,", ",".repeat(240), "by", "a,a", "a" + "\n5".repeat(17),
+            "a" + "\n".repeat(239), "\"" + "x".repeat(239)};
+        for (String first : texts) {
+            for (String second : texts) {
+                boolean stays = Check.load(second).startsWith("throws.");
+                AskedTable used = new AskedTable();
+                Check.load(used, first);
+                AskedTable fresh = new AskedTable();
+                Check.load(fresh, stays ? first : second);
+                s.due(second + " behind " + first, Check.load(used, second), Check.load(second));
+                s.due("what is seen then", Check.seen(used), Check.seen(fresh));
+                s.due("what is written then", Check.told(() -> Check.written(used, false)), Check.told(() -> Check.written(fresh, false)));
+            }
         }
     }
 
