@@ -22,6 +22,7 @@ final class AnswerSentences {
         all.linesByName();
         all.written();
         all.marks();
+        all.marksAmongOthers();
         all.roomOfOut();
         all.throwing();
         all.firstNamed();
@@ -319,6 +320,19 @@ final class AnswerSentences {
         }
         for (String none : new String[] {"-0", "00", "01", "9223372036854775808", "-9223372036854775809", "0000-01-01", "2019-02-29", "2020-1-1"}) {
             table(s, "a\n" + none + "\n\"" + none + "\"\n", "a\n" + none + "\n" + none + "\n");
+        }
+    }
+
+    /** Whether a text is quoted is its own affair: each kind of cell before, below and behind each other kind. */
+    private void marksAmongOthers() {
+        Sentence s = doc.terms("a text is written plain, but quoted (its quotation marks twice)", 14, 15);
+        String[] cells = {"x", "xy", " ", "\"\"", "\",\"", "\"\"\"\"", "\"\n\"", "\"\r\"", "\"1\"", "\"2020-01-01\"", "", "-0"};
+        for (String one : cells) {
+            for (String other : cells) {
+                String text = "a,b,c\nx,x,x\n" + one + "," + other + "," + one + "\n" + other + "," + one + "," + other + "\n";
+                table(s, text, text);
+                writes(s, text, "rows", text);
+            }
         }
     }
 

@@ -26,6 +26,7 @@ final class QuestionSentences {
         all.comparisons();
         all.sorts();
         all.depths();
+        all.depthsBehindOthers();
         all.names();
     }
 
@@ -351,7 +352,26 @@ final class QuestionSentences {
             s.due("beside one another: " + question, Check.asked(x, question), "0");
         }
         s.due("the ( of sum", Check.asked(x, "sum(a) where ((((((((a=1))))))))"), "1");
-        s.due("too deep only behind others", Check.fault(x, "rows where a=1 or ((((((((not a=1))))))))"), 26);
+    }
+
+    /** What stands before, in the same ( or in one around it, takes nothing from the eight and adds nothing to them. */
+    private void depthsBehindOthers() {
+        Sentence s = doc.terms("'not' and '(' lie at most 8 in one another.", 9, 10);
+        String[] before = {"a=1 and ", "a=1 or ", "a=1 and a=1 and ", "a=7 or a=7 or ", "a=7 or a=1 and ", "a=1 and a=1 or ", "not a=2 and ",
+            "not a=1 or ", "(a=1 or a=2) and ", "(((a=7))) or ", "(a=1 and ", "((a=7 or ", "(a=1 and (a=7 or ", "(not a=2 and (", "not (a=2 and ",
+            "(((((((a=1 and ", "(((((((a=7 or ", "((((((((a=1 and ", "((((((((a=7 or "};
+        for (String open : before) {
+            int inside = (int) open.chars().filter(c -> c == '(').count() - (int) open.chars().filter(c -> c == ')').count();
+            int around = inside + (open.startsWith("not (") ? 1 : 0);
+            for (String one : new String[] {"(", "not "}) {
+                String full = "rows where " + open + one.repeat(8 - around);
+                String end = "a=1" + ")".repeat(inside + (one.equals("(") ? 8 - around : 0));
+                AskedTable x = Check.loaded("a\n1\n2\n");
+                s.due("eight: " + full + end, Check.ask(x, full + end).startsWith("throws."), false);
+                s.due("nine: " + full + "(", Check.fault(x, full + "(" + end), full.length());
+                s.due("nine: " + full + "not", Check.fault(x, full + "not " + end), full.length());
+            }
+        }
     }
 
     private void names() {
@@ -365,8 +385,16 @@ final class QuestionSentences {
         fault(s, "most(x)", 5);
         fault(s, "rows order rows", 11);
         fault(s, "count by count", 9);
-        String[] words = {"rows", "count", "sum", "least", "most"};
-        for (String word : words) {
+        AskedTable cells = Check.loaded("a\nx\n\"y\"\nx\n");
+        for (String cell : new String[] {"x", "y", "ax", "xy"}) {
+            s.due("order " + cell + ", a cell's text", Check.fault(cells, "rows order " + cell), "11");
+            s.due(cell + " is null, a cell's text", Check.fault(cells, "rows where " + cell + " is null"), "11");
+            s.due("a= " + cell + ", a cell's text", Check.fault(cells, "rows where a= " + cell), "14");
+            s.due("by " + cell + ", a cell's text", Check.fault(cells, "count by " + cell), "9");
+        }
+        Check.load(cells, "p,q\nx,y\n");
+        s.due("a name of the table before", Check.fault(cells, "rows order a"), "11");
+        for (String word : new String[] {"rows", "count", "sum", "least", "most"}) {
             AskedTable x = Check.loaded(word + ",b\n1,2\n2,1\n,\n");
             s.due("order " + word, Check.asked(x, "rows order " + word), "2 0 1");
             s.due(word + " desc", Check.asked(x, "rows where not " + word + " is null order " + word + " desc"), "1 0");
